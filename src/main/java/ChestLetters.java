@@ -997,15 +997,20 @@ public final class ChestLetters {
     /** What could come: for each set of places that can come to be visited, the ways on to the chest. */
     private static final class Ways {
         private static final int NEVER = -1;
+        private static final int CAMP = MAX_PLACES;
 
         private final Hunt hunt;
         /** The places that can be visited next; NEVER for a set that cannot come to be visited. */
         private final int[] next = new int[SETS];
+        /** Those of them behind which the chest can be reached. */
+        private final int[] leading = new int[SETS];
         private final int[] orders = new int[SETS];
         private final int[] fewest = new int[SETS];
         private final int[] common = new int[SETS];
         /** The minutes to the chest, by the set and the place where the team is then. */
         private final int[] minutes = new int[LOW_SETS * MAX_PLACES];
+        /** The minutes of one visit, by the place (or CAMP) where the team is, and the place that it visits. */
+        private final int[] steps = new int[(MAX_PLACES + 1) * MAX_PLACES];
 
         Ways(Hunt hunt) {
             this.hunt = hunt;
@@ -1026,13 +1031,7 @@ public final class ChestLetters {
         int safeFor(State state, int t) {
             int from = state.visitedBy(t);
             lookFrom(from, state.easedPlaces());
-            int safePlaces = 0;
-            for (int p = 0; p < hunt.count(); p++) {
-                if (leads(from, p)) {
-                    safePlaces |= 1 << p;
-                }
-            }
-            return safePlaces;
+            return leading[from];
         }
 
         int fewestVisits(State state, int t) {
@@ -1045,7 +1044,7 @@ public final class ChestLetters {
             int from = state.visitedBy(t);
             lookFrom(from, state.easedPlaces());
             for (int p = 0; p < hunt.count(); p++) {
-                if (leads(from, p) && fewest[from | 1 << p] + 1 == fewest[from]) {
+                if (isIn(p, leading[from]) && fewest[from | 1 << p] + 1 == fewest[from]) {
                     return p;
                 }
             }
@@ -1056,17 +1055,17 @@ public final class ChestLetters {
             int from = state.visitedBy(t);
             lookFrom(from, state.easedPlaces());
             weighMinutes(state, from);
-            return orders[from] == 0 ? NONE : minutesFrom(state, from, state.lastOf(t));
+            return orders[from] == 0 ? NONE : minutesFrom(from, whereIs(state, t));
         }
 
         int firstOfQuickest(State state, int t) {
             int from = state.visitedBy(t);
-            int here = state.lastOf(t);
+            int here = whereIs(state, t);
             lookFrom(from, state.easedPlaces());
             weighMinutes(state, from);
-            int least = minutesFrom(state, from, here);
+            int least = minutesFrom(from, here);
             for (int p = 0; p < hunt.count(); p++) {
-                if (leads(from, p) && minutesBy(state, from, here, p) == least) {
+                if (isIn(p, leading[from]) && minutesBy(from, here, p) == least) {
                     return p;
                 }
             }
@@ -1076,8 +1075,9 @@ public final class ChestLetters {
         /** How many sets can come to be visited from the beginning on, but lead to no chest. */
         int countDeadEnds(int eased) {
             lookFrom(0, eased);
+            int all = hunt.allPlaces();
             int count = 0;
-            for (int set = 0; set <= hunt.allPlaces(); set++) {
+            for (int set = 0; set <= all; set++) {
                 if (next[set] != NEVER && orders[set] == 0) {
                     count++;
                 }
@@ -1107,57 +1107,75 @@ public final class ChestLetters {
                 }
                 int open = hunt.openAfter(set, eased);
                 next[set] = open;
-                for (int p = 0; p < hunt.count(); p++) {
-                    if (isIn(p, open)) {
-                        next[set | 1 << p] = 0;
+                for (int bit = 1; bit <= open; bit <<= 1) {
+                    if ((open & bit) != 0) {
+                        next[set | bit] = 0;
                     }
                 }
             }
         }
 
+        /** Gathers what the greater sets say, to which the visits from this one lead. */
         private void weigh(int set) {
-            int ways = hunt.hasChest(set) ? 1 : 0;
+            boolean ended = hunt.hasChest(set);
+            int open = next[set];
+            int onward = 0;
+            int ways = ended ? 1 : 0;
             int least = 0;
-            int inAll = ways > 0 ? 0 : hunt.allPlaces();
-            for (int p = 0; p < hunt.count(); p++) {
-                if (leads(set, p)) {
-                    int then = set | 1 << p;
-                    least = ways == 0 ? fewest[then] + 1 : Math.min(least, fewest[then] + 1);
+            int inAll = ended ? 0 : hunt.allPlaces();
+            for (int bit = 1; bit <= open; bit <<= 1) {
+                int then = set | bit;
+                if ((open & bit) != 0 && orders[then] > 0) {
+                    least = onward == 0 ? fewest[then] + 1 : Math.min(least, fewest[then] + 1);
+                    onward |= bit;
                     ways += orders[then];
-                    inAll &= common[then] | 1 << p;
+                    inAll &= common[then] | bit;
                 }
             }
+            leading[set] = onward;
             orders[set] = ways;
             fewest[set] = least;
             common[set] = inAll;
         }
 
-        /** Whether p can be visited after the set, and the chest be reached then. */
-        private boolean leads(int set, int p) {
-            return (next[set] >> p & 1) != 0 && orders[set | 1 << p] > 0;
+        private static int whereIs(State state, int t) {
+            int last = state.lastOf(t);
+            return last == NONE ? CAMP : last;
+        }
+
+        private void measure(State state) {
+            for (int to = 0; to < MAX_PLACES; to++) {
+                for (int here = 0; here < MAX_PLACES; here++) {
+                    steps[here * MAX_PLACES + to] = state.minutesBetween(here, to);
+                }
+                steps[CAMP * MAX_PLACES + to] = state.minutesBetween(NONE, to);
+            }
         }
 
         private void weighMinutes(State state, int from) {
+            measure(state);
+            int chest = hunt.chest();
             // A set that has the chest needs no minutes, and is not asked for.
-            for (int set = (1 << hunt.chest()) - 1; set > from; set--) {
+            for (int set = (1 << chest) - 1; set > from; set--) {
                 if (next[set] == NEVER || orders[set] == 0) {
                     continue;
                 }
-                for (int here = 0; here < hunt.chest(); here++) {
+                for (int here = 0; here < chest; here++) {
                     if (isIn(here, set & ~from)) {
-                        minutes[set * MAX_PLACES + here] = minutesFrom(state, set, here);
+                        minutes[set * MAX_PLACES + here] = minutesFrom(set, here);
                     }
                 }
             }
         }
 
         /** The fewest minutes to the chest; 0 if it was visited. */
-        private int minutesFrom(State state, int set, int here) {
+        private int minutesFrom(int set, int here) {
+            int onward = leading[set];
             int least = 0;
             boolean found = false;
-            for (int p = 0; p < hunt.count(); p++) {
-                if (leads(set, p)) {
-                    int byPlace = minutesBy(state, set, here, p);
+            for (int p = 0; p < MAX_PLACES; p++) {
+                if ((onward >> p & 1) != 0) {
+                    int byPlace = minutesBy(set, here, p);
                     least = found ? Math.min(least, byPlace) : byPlace;
                     found = true;
                 }
@@ -1165,10 +1183,10 @@ public final class ChestLetters {
             return least;
         }
 
-        private int minutesBy(State state, int set, int here, int p) {
+        private int minutesBy(int set, int here, int p) {
             int then = set | 1 << p;
             int rest = hunt.hasChest(then) ? 0 : minutes[then * MAX_PLACES + p];
-            return state.minutesBetween(here, p) + rest;
+            return steps[here * MAX_PLACES + p] + rest;
         }
     }
 

@@ -12,12 +12,14 @@ public final class PromisesTest {
         errorPositionOfPlaces();
         errorPositionOfConditions();
         errorPositionOfDeepTexts();
+        readingStartsAnew();
         load();
         loadForgets();
         about();
         place();
         holds();
         holdsByCount();
+        holdsByCountOfFew();
         holdsWithTenPlaces();
         team();
         trail();
@@ -180,6 +182,25 @@ public final class PromisesTest {
         Check.is("parentheses behind parts, with a", z.holds(2, 1), true);
     }
 
+    private static void readingStartsAnew() {
+        String[] brokenOff = {
+            "H/00!", "H/00*.", "H/00*+", "H/00(*+", "H/00(!", "H/001[*,", "H/004[!",
+            "H/00*/00*/00*", "H/00*/00(a+b.", "H/0"
+        };
+        for (String text : brokenOff) {
+            ChestLetters x = Check.write(new ChestLetters(), text);
+            x.errorPosition();
+            Check.write(x, "H/00*/00a/00(a.b)+1[a]");
+            Check.is("errorPosition behind " + text, x.errorPosition(), NONE);
+            Check.is("load behind " + text, x.load(), 3);
+            for (int set = 0; set < 4; set++) {
+                Check.is("place 0 behind " + text, x.holds(0, set), true);
+                Check.is("place 1 behind " + text, x.holds(1, set), (set & 1) != 0);
+                Check.is("place 2 behind " + text, x.holds(2, set), (set & 1) != 0);
+            }
+        }
+    }
+
     // Promise 5
     private static void load() {
         ChestLetters x = Check.write(new ChestLetters(), CLOSING);
@@ -250,6 +271,9 @@ public final class PromisesTest {
         for (int what = 0; what < 6; what++) {
             Check.is("about(" + what + ")", x.about(what), due[what]);
         }
+        ChestLetters y = Check.walked("H/12*/34*/99a", 0, 2);
+        Check.is("greatest score of the only team", y.about(3), 200 - 20);
+        Check.is("its places", y.about(4), 2);
         Check.fails("about(-1)", Check.ARGUMENT, () -> x.about(-1));
         Check.fails("about(6)", Check.ARGUMENT, () -> x.about(6));
     }
@@ -313,6 +337,20 @@ public final class PromisesTest {
                 int count = (set & 1) + (~set >> 1 & 1) + ((set & 12) == 12 ? 1 : 0);
                 Check.is("!" + n + "[a,!b,c.d]", x.holds(6, set), count < n);
             }
+        }
+    }
+
+    private static void holdsByCountOfFew() {
+        for (int n = 2; n <= 4; n++) {
+            ChestLetters x = Check.hunt("H/00*/00" + n + "[a]/00" + n + "[*]/00!" + n + "[a]");
+            Check.is("fewer conditions than " + n, x.holds(1, 1), false);
+            Check.is("fewer conditions than " + n, x.holds(2, 3), false);
+            Check.is("not fewer conditions than " + n, x.holds(3, 1), true);
+        }
+        ChestLetters y = Check.hunt("H/00*/00*/00*/002[a.b+c,(!a),!b]");
+        for (int set = 0; set < 8; set++) {
+            int count = ((set & 3) == 3 || set > 3 ? 1 : 0) + (~set & 1) + (~set >> 1 & 1);
+            Check.is("2[a.b+c,(!a),!b]", y.holds(3, set), count >= 2);
         }
     }
 
@@ -626,6 +664,9 @@ public final class PromisesTest {
         Check.fails("shortest(0, 2)", Check.ARGUMENT, () -> x.shortest(0, 2));
         Check.fails("shortest(0, -1)", Check.ARGUMENT, () -> x.shortest(0, -1));
         Check.fails("shortest(1, 2)", Check.INDEX, () -> x.shortest(1, 2));
+        Check.is("the only way", Check.walked(CLOSING).shortest(0, 0), 3);
+        Check.is("its first place", Check.walked(CLOSING).shortest(0, 1), 1);
+        Check.is("place 0 first", Check.walked("H/00*/00*/00a+b").shortest(0, 1), 0);
         ChestLetters y = Check.walked(CLOSING, 0);
         Check.is("no way", y.shortest(0, 0), NONE);
         Check.is("no way", y.shortest(0, 1), NONE);
@@ -661,6 +702,8 @@ public final class PromisesTest {
         ChestLetters y = Check.walked(CLOSING, 0);
         Check.is("no way", y.quickest(0, 0), NONE);
         Check.is("no way", y.quickest(0, 1), NONE);
+        Check.is("the first place, asked for first", Check.walked(CLOSING).quickest(0, 1), 1);
+        Check.is("the first place of two", Check.walked("H/00*/09*/00*/99b.c").quickest(0, 1), 2);
         // More visits may take fewer minutes: a, b and the chest lie together, c is far away.
         ChestLetters z = Check.walked("H/00*/01*/99*/02a.b+c");
         Check.is("quick in more visits", z.quickest(0, 0), 5);
@@ -728,6 +771,10 @@ public final class PromisesTest {
         ChestLetters y = Check.walked(CLOSING, 1, 2, 3);
         Check.is("teams are no matter", y.deadEnds(), 2);
         Check.is("ten places", Check.hunt("H/00*/00*/00*/00*/00*/00*/00*/00*/00*/00!*").deadEnds(), 512);
+        ChestLetters z = Check.hunt("H/00*/00*/00*/00!*");
+        Check.is("eight sets", z.deadEnds(), 8);
+        Check.write(z, "H/00*/00!*/00!*/00!*").load();
+        Check.is("two sets in the hunt behind it", z.deadEnds(), 2);
     }
 
     // Promise 25
@@ -844,10 +891,11 @@ public final class PromisesTest {
         Check.is("teams are no matter", y.simulate(77, 13), simulated(77, 13));
         y.move(3, 0, 0);
         y.ease(3);
-        Check.is("where places are now, and with what was eased", y.simulate(8, 1), 100000 + minutesToChestAtCamp(8));
+        int minutes = minutesToChestAtCamp(8);
+        Check.is("where places are now, and with what was eased", y.simulate(8, 1), 100000 + minutes);
     }
 
-    /** The same for the hunt H/12*, /34*, /56*, /78a.!b by hand: the chest opens behind a, as long as b was not visited. */
+    /** The same for this hunt alone: the chest opens behind a, as long as b was not visited. */
     private static int simulated(long seed, int m) {
         int[] sums = {3, 7, 11, 15};
         long x = seed;
