@@ -1107,9 +1107,9 @@ public final class ChestLetters {
                 }
                 int open = hunt.openAfter(set, eased);
                 next[set] = open;
-                for (int bit = 1; bit <= open; bit <<= 1) {
-                    if ((open & bit) != 0) {
-                        next[set | bit] = 0;
+                for (int p = 0; p < MAX_PLACES; p++) {
+                    if ((open >> p & 1) != 0) {
+                        next[set | 1 << p] = 0;
                     }
                 }
             }
@@ -1123,13 +1123,13 @@ public final class ChestLetters {
             int ways = ended ? 1 : 0;
             int least = 0;
             int inAll = ended ? 0 : hunt.allPlaces();
-            for (int bit = 1; bit <= open; bit <<= 1) {
-                int then = set | bit;
-                if ((open & bit) != 0 && orders[then] > 0) {
+            for (int p = 0; p < MAX_PLACES; p++) {
+                int then = set | 1 << p;
+                if ((open >> p & 1) != 0 && orders[then] > 0) {
                     least = onward == 0 ? fewest[then] + 1 : Math.min(least, fewest[then] + 1);
-                    onward |= bit;
+                    onward |= 1 << p;
                     ways += orders[then];
-                    inAll &= common[then] | bit;
+                    inAll &= common[then] | 1 << p;
                 }
             }
             leading[set] = onward;

@@ -184,20 +184,26 @@ public final class PromisesTest {
 
     private static void readingStartsAnew() {
         String[] brokenOff = {
-            "H/00!", "H/00*.", "H/00*+", "H/00(*+", "H/00(!", "H/001[*,", "H/004[!",
+            "H/00!", "H/00*.", "H/00*+", "H/00(*+", "H/00(*.", "H/00(!", "H/001[*,", "H/004[!",
             "H/00*/00*/00*", "H/00*/00(a+b.", "H/0"
         };
         for (String text : brokenOff) {
-            ChestLetters x = Check.write(new ChestLetters(), text);
-            x.errorPosition();
-            Check.write(x, "H/00*/00a/00(a.b)+1[a]");
-            Check.is("errorPosition behind " + text, x.errorPosition(), NONE);
-            Check.is("load behind " + text, x.load(), 3);
-            for (int set = 0; set < 4; set++) {
-                Check.is("place 0 behind " + text, x.holds(0, set), true);
-                Check.is("place 1 behind " + text, x.holds(1, set), (set & 1) != 0);
-                Check.is("place 2 behind " + text, x.holds(2, set), (set & 1) != 0);
-            }
+            loadBehind(text, "a", new boolean[] {false, true, false, true});
+            loadBehind(text, "b.(a)", new boolean[] {false, false, false, true});
+            loadBehind(text, "b+(a.b)", new boolean[] {false, false, true, true});
+            loadBehind(text, "b.1[a]", new boolean[] {false, false, false, true});
+            loadBehind(text, "2[a,b,a]", new boolean[] {false, true, false, true});
+        }
+    }
+
+    private static void loadBehind(String text, String condition, boolean[] due) {
+        ChestLetters x = Check.write(new ChestLetters(), text);
+        x.errorPosition();
+        Check.write(x, "H/00*/00*/00" + condition + "/00c");
+        Check.is("load behind " + text, x.load(), 4);
+        for (int set = 0; set < 4; set++) {
+            Check.is("place 0 behind " + text, x.holds(0, set), true);
+            Check.is(condition + " behind " + text, x.holds(2, set), due[set]);
         }
     }
 
