@@ -68,7 +68,7 @@ public final class RandomRunsTest {
             }
             for (int i = 0; i < part && wrong == 0; i++) {
                 String name = pick();
-                same(x, y, calls, name, arguments(name, calls));
+                same(x, y, calls, name, arguments(name, y.about(0)));
             }
         }
         if (wrong > 0) {
@@ -92,7 +92,7 @@ public final class RandomRunsTest {
 
     private String text() {
         StringBuilder b = new StringBuilder("H");
-        int n = below(12) == 0 ? 7 + below(5) : 2 + below(5);
+        int n = below(6) == 0 ? 7 + below(5) : 2 + below(5);
         for (int p = 0; p < n; p++) {
             b.append('/').append(below(10)).append(below(10));
             condition(b, p, below(4) == 0 ? 3 : 1);
@@ -166,20 +166,20 @@ public final class RandomRunsTest {
         return kind == 0 ? far[below(far.length)] : below(n);
     }
 
-    private Object[] arguments(String name, List<String> calls) {
+    private Object[] arguments(String name, int places) {
         switch (name) {
             case "append": return new Object[] {near(256)};
             case "about": return new Object[] {near(6)};
-            case "place": return new Object[] {near(7), near(4)};
-            case "holds": return new Object[] {near(6), near(1 << (1 + below(10)))};
+            case "place": return new Object[] {near(places), near(4)};
+            case "holds": return new Object[] {near(places), near(1 << places)};
             case "team": return new Object[] {near(4), near(6)};
             case "trail": return new Object[] {near(4), near(11)};
-            case "go": return new Object[] {near(3), near(7)};
-            case "move": return new Object[] {near(6), near(10), near(10)};
-            case "ease": return new Object[] {near(7)};
+            case "go": return new Object[] {near(4), near(places)};
+            case "move": return new Object[] {near(places), near(10), near(10)};
+            case "ease": return new Object[] {near(places)};
             case "shortest":
-            case "quickest": return new Object[] {near(3), near(2)};
-            case "runScript": return script();
+            case "quickest": return new Object[] {near(4), near(2)};
+            case "runScript": return script(places);
             case "simulate": return new Object[] {below(4) == 0 ? below(9) - 4L : number, 1 + near(50)};
             case "save":
             case "restore": return new Object[] {near(2)};
@@ -188,16 +188,16 @@ public final class RandomRunsTest {
             case "giveUp":
             case "orders":
             case "safe":
-            case "needed": return new Object[] {near(3)};
+            case "needed": return new Object[] {near(4)};
             default: return new Object[0];
         }
     }
 
-    private Object[] script() {
+    private Object[] script(int places) {
         int n = 1 + near(4);
         long commands = 0;
         for (int i = 0; i < n && i < 4; i++) {
-            commands = commands * 10000 + command();
+            commands = commands * 10000 + command(places);
         }
         int kind = below(30);
         if (kind == 0) {
@@ -210,9 +210,9 @@ public final class RandomRunsTest {
         return new Object[] {n, commands};
     }
 
-    private int command() {
-        int a = below(3);
-        int b = below(6);
+    private int command(int places) {
+        int a = below(4);
+        int b = below(Math.min(10, places + 1));
         int noise = below(25) == 0 ? 1 + below(100) : 0;
         switch (below(11)) {
             case 0:
