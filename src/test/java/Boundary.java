@@ -43,6 +43,11 @@ abstract class Boundary {
             87 times append 42
             """;
 
+    /** Four teams that took ways of their own; nothing is remembered. */
+    static final String WALKED = "hunt H/00*/11*/22*/33*/44*/55*/66*/77*/88*/99*; 4 times addTeam; "
+            + walk(0, 0, 1, 2, 3, 4, 5, 6, 7, 8) + walk(1, 8, 7, 6, 5, 4, 3, 2, 1, 0) + walk(2, 4, 3, 2, 1, 0, 5, 6, 7)
+            + walk(3, 1, 3, 5, 7, 8, 6, 4, 2, 0, 9) + "hint 1; hint 2; save 0; restore 0; ";
+
     private static final Set<String> READING = Set.of("errorPosition", "about", "place", "holds", "team", "trail",
             "open", "shortest", "quickest", "orders", "safe", "needed", "deadEnds", "easeBy", "runScript", "simulate");
     private static final List<List<String>> QUESTIONS = List.of(
@@ -115,9 +120,9 @@ abstract class Boundary {
     }
 
     /**
-     * Calls on a new object, one a line: "go 0 1 = 5" must answer 5, "go 0 9 ! INDEX" must throw, "go 0 1" must
-     * not throw. "text H/.." stands for clearText and the appends, "hunt H/.." for these and load; "3 times "
-     * ahead of a call repeats it.
+     * Calls on a new object, one a line or with semicolons between them: "go 0 1 = 5" must answer 5, "go 0 9 ! INDEX"
+     * must throw, "go 0 1" must not throw. "text H/.." stands for clearText and the appends, "hunt H/.." for these
+     * and load; "3 times " ahead of a call repeats it.
      */
     static void run(String lines) {
         Calls object = new Calls();
@@ -155,7 +160,7 @@ abstract class Boundary {
 
     private static List<String> steps(String lines) {
         List<String> steps = new ArrayList<>();
-        for (String line : lines.split("\n")) {
+        for (String line : lines.split("[\n;]")) {
             String step = line.strip();
             if (step.isEmpty()) {
                 continue;
@@ -188,9 +193,9 @@ abstract class Boundary {
 
     /** Calls behind some others, one for each number, which stands where the # is; all have the same answer. */
     static void each(String before, String call, String due, long... numbers) {
-        StringBuilder lines = new StringBuilder(before).append('\n');
+        StringBuilder lines = new StringBuilder(before).append("; ");
         for (long number : numbers) {
-            lines.append(call.replace("#", Long.toString(number))).append(" = ").append(due).append('\n');
+            lines.append(call.replace("#", Long.toString(number))).append(" = ").append(due).append("; ");
         }
         run(lines.toString());
     }
@@ -202,15 +207,15 @@ abstract class Boundary {
     }
 
     static void teamsRefused(String call) {
-        run("4 times addTeam\n" + call.replace("#", "0"));
-        run("4 times addTeam\n" + call.replace("#", "3"));
+        run("4 times addTeam; " + call.replace("#", "0"));
+        run("4 times addTeam; " + call.replace("#", "3"));
         each("", call, "INDEX", 0, 1, -1, -9, 4);
         each("addTeam", call, "INDEX", -1, 1, 2, 4, 32, 256, 65536, MOST, LEAST);
         each("4 times addTeam", call, "INDEX", -1, -4, 4, 5, 8, 36, MOST, LEAST);
-        each("2 times addTeam\ngiveUp 0", call, "INDEX", 1, 2, -1);
-        each("addTeam\nundo", call, "INDEX", 0, 1);
-        each("addTeam\nsave 1\naddTeam\nrestore 1", call, "INDEX", 1, 2);
-        each("4 times addTeam\nhunt H/00*/00*", call, "INDEX", 0, 3);
+        each("2 times addTeam; giveUp 0", call, "INDEX", 1, 2, -1);
+        each("addTeam; undo", call, "INDEX", 0, 1);
+        each("addTeam; save 1; addTeam; restore 1", call, "INDEX", 1, 2);
+        each("4 times addTeam; hunt H/00*/00*", call, "INDEX", 0, 3);
     }
 
     static void noSuchPlace(String part, String call) {
@@ -219,20 +224,20 @@ abstract class Boundary {
     }
 
     static void placesRefused(String before, String call) {
-        run(before + "\n" + call.replace("#", "0"));
-        run("hunt " + TEN_FREE + "\n" + before + "\n" + call.replace("#", "9"));
+        run(before + "; " + call.replace("#", "0"));
+        run("hunt " + TEN_FREE + "; " + before + "; " + call.replace("#", "9"));
         each(before, call, "INDEX", -1, 2, 3, 9, 10, 32, 33, 256, 65536, -9, MOST, LEAST);
-        each("hunt " + TEN_FREE + "\n" + before, call, "INDEX", -1, 10, 11, 32, 41, MOST, LEAST);
-        each("hunt " + NINE_FREE + "\n" + before, call, "INDEX", -1, 9, 10);
-        each("hunt " + TEN_FREE + "\nhunt H/00*/00*/00*\n" + before, call, "INDEX", -1, 3, 9);
-        each("text H/00*/00*/00*\n" + before, call, "INDEX", 2);
+        each("hunt " + TEN_FREE + "; " + before, call, "INDEX", -1, 10, 11, 32, 41, MOST, LEAST);
+        each("hunt " + NINE_FREE + "; " + before, call, "INDEX", -1, 9, 10);
+        each("hunt " + TEN_FREE + "; hunt H/00*/00*/00*; " + before, call, "INDEX", -1, 3, 9);
+        each("text H/00*/00*/00*; " + before, call, "INDEX", 2);
     }
 
     /** The visits of the places below n, in their order. */
     static String goTo(int t, int n) {
         StringBuilder lines = new StringBuilder();
         for (int p = 0; p < n; p++) {
-            lines.append("go " + t + " " + p + "\n");
+            lines.append("go " + t + " " + p + "; ");
         }
         return lines.toString();
     }
@@ -265,6 +270,14 @@ abstract class Boundary {
             calls.add(step.split(" [=!] ", 2)[0]);
         }
         return calls;
+    }
+
+    static String walk(int t, int... places) {
+        StringBuilder lines = new StringBuilder();
+        for (int p : places) {
+            lines.append("go " + t + " " + p + "; ");
+        }
+        return lines.toString();
     }
 
     private static void unchanged(List<String> before, String call) {

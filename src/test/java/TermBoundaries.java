@@ -117,8 +117,8 @@ final class TermBoundaries extends Boundary {
         for (int q = 0; q < 9; q++) {
             String last = NINE_FREE + "/00" + (char) ('a' + q);
             run("hunt " + last
-                    + "\nholds 9 0 = false\nholds 9 " + (1 << q) + " = true"
-                    + "\nholds 9 " + (1023 & ~(1 << q)) + " = false\nholds 9 1023 = true");
+                    + "; holds 9 0 = false; holds 9 " + (1 << q) + " = true"
+                    + "; holds 9 " + (1023 & ~(1 << q)) + " = false; holds 9 1023 = true");
         }
         run("text " + NINE_FREE + "/00j" + """
 
@@ -369,10 +369,10 @@ final class TermBoundaries extends Boundary {
         int[] sets = {0, 16, 20, 21, 29, 31};
         for (int n = 1; n <= 4; n++) {
             StringBuilder lines = new StringBuilder("hunt H/00*/00*/00*/00*/00*/00" + n + "[a,b,c,d,e]");
-            lines.append("/00!" + n + "[a,b,c,d,e]\n");
+            lines.append("/00!" + n + "[a,b,c,d,e]; ");
             for (int holding = 0; holding <= 5; holding++) {
-                lines.append("holds 5 " + sets[holding] + " = " + (holding >= n) + "\n");
-                lines.append("holds 6 " + sets[holding] + " = " + (holding < n) + "\n");
+                lines.append("holds 5 " + sets[holding] + " = " + (holding >= n) + "; ");
+                lines.append("holds 6 " + sets[holding] + " = " + (holding < n) + "; ");
             }
             run(lines.toString());
         }
@@ -440,11 +440,7 @@ final class TermBoundaries extends Boundary {
                 addTeam ! STATE
                 """);
         told(TEAMS, "A team has the places that it has visited in their order, minutes, and hints.");
-        StringBuilder lines = new StringBuilder("hunt " + TEN_FREE + "\naddTeam\nhint 0\n");
-        for (int p : new int[] {8, 0, 7, 1, 6, 2, 5, 3, 4, 9}) {
-            lines.append("go 0 " + p + "\n");
-        }
-        run(lines + """
+        run("hunt " + TEN_FREE + "; addTeam; hint 0; " + walk(0, 8, 0, 7, 1, 6, 2, 5, 3, 4, 9) + """
                 trail 0 0 = 8
                 trail 0 1 = 0
                 trail 0 2 = 7
@@ -459,6 +455,22 @@ final class TermBoundaries extends Boundary {
                 team 0 0 = 1023
                 team 0 2 = 10
                 team 0 3 = 1
+                """);
+        run(WALKED + """
+                trail 1 0 = 8
+                trail 1 8 = 0
+                trail 1 9 = NONE
+                trail 2 4 = 0
+                trail 2 7 = 7
+                trail 2 8 = NONE
+                trail 3 0 = 1
+                trail 3 9 = 9
+                team 0 2 = 25
+                team 1 2 = 41
+                team 2 2 = 38
+                team 0 3 = 0
+                team 1 3 = 1
+                team 3 3 = 0
                 """);
     }
 
@@ -544,19 +556,19 @@ final class TermBoundaries extends Boundary {
                 team 1 4 = 199
                 """);
         // 19 minutes by the straight way, 20 by a.
-        String twoTeams = "hunt H/00*/99*\n2 times addTeam\n# times hint 0\n# times hint 1\ngo 0 1\ngo 1 0\ngo 1 1\n";
-        run(twoTeams.replace("#", "17") + "team 0 4 = 11\nteam 1 4 = 10\nabout 3 = 11");
-        run(twoTeams.replace("#", "18") + "team 0 4 = 1\nteam 1 4 = 0\nabout 3 = 1");
-        run(twoTeams.replace("#", "19") + "team 0 4 = 0\nteam 1 4 = 0\nabout 3 = 0");
-        run(twoTeams.replace("#", "60") + "team 0 4 = 0\nteam 1 4 = 0\nabout 3 = 0");
-        run("hunt " + ZIGZAG + "\naddTeam\n" + goTo(0, 9) + """
+        String twoTeams = "hunt H/00*/99*; 2 times addTeam; # times hint 0; # times hint 1; go 0 1; go 1 0; go 1 1; ";
+        run(twoTeams.replace("#", "17") + "team 0 4 = 11; team 1 4 = 10; about 3 = 11");
+        run(twoTeams.replace("#", "18") + "team 0 4 = 1; team 1 4 = 0; about 3 = 1");
+        run(twoTeams.replace("#", "19") + "team 0 4 = 0; team 1 4 = 0; about 3 = 0");
+        run(twoTeams.replace("#", "60") + "team 0 4 = 0; team 1 4 = 0; about 3 = 0");
+        run("hunt " + ZIGZAG + "; addTeam; " + goTo(0, 9) + """
                 team 0 2 = 171
                 team 0 4 = 0
                 go 0 9 = 190
                 team 0 4 = 10
                 about 3 = 10
                 """);
-        run("hunt " + ZIGZAG + "\naddTeam\nhint 0 = 0\n" + goTo(0, 10) + "team 0 4 = 0");
+        run("hunt " + ZIGZAG + "; addTeam; hint 0 = 0; " + goTo(0, 10) + "team 0 4 = 0");
     }
 
     private static void reaching() {
@@ -682,7 +694,7 @@ final class TermBoundaries extends Boundary {
         String write = text.isEmpty() ? "clearText" : "text " + text;
         boolean isHunt = due.equals("NONE");
         String load = isHunt ? "load = " + (text.split("/").length - 1) : "load ! STATE";
-        run(write + "\nerrorPosition = " + due + "\n" + load + "\nclearText = " + text.length());
+        run(write + "; errorPosition = " + due + "; " + load + "; clearText = " + text.length());
     }
 
     private static void placesInText() {
@@ -820,9 +832,9 @@ final class TermBoundaries extends Boundary {
             for (int blank : new int[] {9, 10, 13, 32, 160}) {
                 StringBuilder lines = new StringBuilder();
                 for (char c : (hunt.substring(0, i) + (char) blank + hunt.substring(i)).toCharArray()) {
-                    lines.append("append " + (int) c + "\n");
+                    lines.append("append " + (int) c + "; ");
                 }
-                run(lines + "errorPosition = " + i + "\nload ! STATE");
+                run(lines + "errorPosition = " + i + "; load ! STATE");
             }
         }
     }
@@ -1016,14 +1028,14 @@ final class TermBoundaries extends Boundary {
         takesBack("", "addTeam");
         takesBack("", "move 0 9 9");
         takesBack("", "ease 1");
-        takesBack("hunt " + ZIGZAG + "\naddTeam\n" + goTo(0, 9), "go 0 9");
-        takesBack("4 times addTeam\ngo 3 0\ngo 2 0\nhint 2", "giveUp 0");
+        takesBack("hunt " + ZIGZAG + "; addTeam; " + goTo(0, 9), "go 0 9");
+        takesBack("4 times addTeam; go 3 0; go 2 0; hint 2", "giveUp 0");
     }
 
     private static void forgotten() {
         told(ACTIONS, "At most 14 states are remembered; when one more is remembered, the oldest one is forgotten.");
         for (int actions : new int[] {1, 13, 14, 15, 16, 27, 28, 29, 30, 43}) {
-            run(moves(0, actions) + undone(actions, Math.min(14, actions)) + "undo ! STATE\n");
+            run(moves(0, actions) + undone(actions, Math.min(14, actions)) + "undo ! STATE; ");
         }
         // The ring of the remembered states is entered somewhere, left half, and filled beyond its end again.
         for (int first : new int[] {1, 5, 14, 15, 20}) {
@@ -1033,10 +1045,10 @@ final class TermBoundaries extends Boundary {
                 int left = Math.min(14, kept + then);
                 run(moves(0, first) + undone(first, taken).replaceAll("undo = [0-9]+", "undo")
                         + moves(first - taken, first - taken + then) + undone(first - taken + then, left)
-                        + "undo ! STATE\n");
+                        + "undo ! STATE; ");
             }
         }
-        run(moves(0, 20) + "save 0 = 0\nundo = 13\nrestore 0 = 0\nundo ! STATE\n" + moves(20, 34) + undone(34, 14)
+        run(moves(0, 20) + "save 0 = 0; undo = 13; restore 0 = 0; undo ! STATE; " + moves(20, 34) + undone(34, 14)
                 + "undo ! STATE");
     }
 
@@ -1044,7 +1056,7 @@ final class TermBoundaries extends Boundary {
     private static String moves(int from, int to) {
         StringBuilder lines = new StringBuilder();
         for (int i = from + 1; i <= to; i++) {
-            lines.append("move 0 " + i / 10 + " " + i % 10 + " = " + (i - 1) + "\n");
+            lines.append("move 0 " + i / 10 + " " + i % 10 + " = " + (i - 1) + "; ");
         }
         return lines.toString();
     }
@@ -1052,8 +1064,8 @@ final class TermBoundaries extends Boundary {
     private static String undone(int from, int count) {
         StringBuilder lines = new StringBuilder();
         for (int i = 1; i <= count; i++) {
-            lines.append("undo = " + (count - i) + "\n");
-            lines.append("place 0 0 = " + (from - i) / 10 + "\nplace 0 1 = " + (from - i) % 10 + "\n");
+            lines.append("undo = " + (count - i) + "; ");
+            lines.append("place 0 0 = " + (from - i) / 10 + "; place 0 1 = " + (from - i) % 10 + "; ");
         }
         return lines.toString();
     }
@@ -1088,7 +1100,7 @@ final class TermBoundaries extends Boundary {
     private static void indexException() {
         told(EXCEPTIONS, "IndexOutOfBoundsException means that a place or a team does not exist, or that a save slot is not"
                 + " 0 or 1.");
-        String two = "hunt " + CLOSING + "\n2 times addTeam\nsave 0\nsave 1\n";
+        String two = "hunt " + CLOSING + "; 2 times addTeam; save 0; save 1; ";
         for (String call : new String[] {"place # 0", "holds # 0", "go 0 #", "move # 0 0", "ease #"}) {
             each(two, call, "INDEX", NO_PLACE);
         }
@@ -1105,7 +1117,7 @@ final class TermBoundaries extends Boundary {
         each("hunt " + TEN_FREE, "place # 3", "INDEX", 10, -1, 16, 32);
         each("hunt " + TEN_FREE, "holds # 0", "INDEX", 10, -1, 16, 32);
         each("hunt " + TEN_FREE, "move # 0 0", "INDEX", 10, -1, 16, 32);
-        each("hunt " + TEN_FREE + "\naddTeam", "go 0 #", "INDEX", 10, -1, 16, 32);
+        each("hunt " + TEN_FREE + "; addTeam", "go 0 #", "INDEX", 10, -1, 16, 32);
         run("hunt " + TEN_FREE + """
 
                 4 times addTeam
@@ -1124,7 +1136,7 @@ final class TermBoundaries extends Boundary {
     private static void argumentException() {
         told(EXCEPTIONS, "IllegalArgumentException means that another argument is out of its range.");
         long[] far = {Integer.MAX_VALUE, Integer.MIN_VALUE, -9};
-        String one = "hunt " + CLOSING + "\naddTeam\n";
+        String one = "hunt " + CLOSING + "; addTeam; ";
         for (String call : new String[] {"append #", "about #", "place 0 #", "holds 0 #", "team 0 #", "trail 0 #",
             "move 0 # 0", "move 0 0 #", "shortest 0 #", "quickest 0 #", "runScript # 3000", "simulate 0 #"}) {
             each(one, call, "ARGUMENT", -1, -9, Integer.MIN_VALUE);
