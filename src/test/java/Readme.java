@@ -14,12 +14,12 @@ final class Readme {
     private static final Pattern ROW = Pattern.compile("\\| `(\\w+)\\(([^)]*)\\)` *\\|[^|]*\\|([^|]*)\\|");
 
     /** A line of Java; all but the number and the words are null if it is no call at the left margin. */
-    record Line(int number, String words, String variable, String call, String method, String answer) {
+    record Line(int number, String words, String type, String variable, String call, String method, String answer) {
         boolean isCall() {
             return call != null;
         }
 
-        /** Whether a value is kept that no constructor made. */
+        /** Whether the call's answer goes into a variable of this type. */
         boolean keepsAnswer() {
             return variable != null;
         }
@@ -49,9 +49,9 @@ final class Readme {
     private static Line lineOf(int number, String words) {
         Matcher m = CALL.matcher(words);
         if (!m.matches()) {
-            return new Line(number, words, null, null, null, null);
+            return new Line(number, words, null, null, null, null, null);
         }
-        return new Line(number, words, m.group(3), m.group(4), m.group(6), m.group(8));
+        return new Line(number, words, m.group(2), m.group(3), m.group(4), m.group(6), m.group(8));
     }
 
     private void addRow(String words) {

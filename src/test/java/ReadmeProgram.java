@@ -25,7 +25,7 @@ public final class ReadmeProgram {
         }
         String due = answer.equals("NONE") ? "ChestLetters.NONE" : answer;
         if (line.keepsAnswer()) {
-            return "int " + line.variable() + " = " + line.call() + ";\n"
+            return line.type() + " " + line.variable() + " = " + line.call() + ";\n"
                     + "Check.is(" + name + line.variable() + ", " + due + ");";
         }
         return "Check.is(" + name + line.call() + ", " + due + ");";
